@@ -1,5 +1,10 @@
+import java.util.function.LongSupplier;
+
 /** What the tests share: comparing answers, writing into the buffer, and reading a grammar out. */
 final class Check {
+    /** Five nonterminals with units to B, twelve right sides of B: 60 productions without units. */
+    private static final String SIXTY = "A:B;C:B;D:B;E:B;B:a|b|c|d|e|f|g|h|aa|ab|ac|ad";
+
     private static int wrong = 0;
     private static int checked = 0;
 
@@ -61,6 +66,35 @@ final class Check {
             }
         }
         return text.toString();
+    }
+
+    /** A grammar with 60 productions, which no text in the buffer can have. */
+    static GrammarReshaper sixty() {
+        return withoutUnits(SIXTY, 60);
+    }
+
+    /** What removeUnits makes of the text: a way to grammars that are larger than any text. */
+    static GrammarReshaper withoutUnits(String text, int productions) {
+        GrammarReshaper tool = loaded(text);
+        due("removeUnits of " + text, tool.removeUnits(), productions);
+        return tool;
+    }
+
+    /** The call answers the error code, twice, and changes neither grammar nor buffer nor saved one. */
+    static void refused(String what, GrammarReshaper tool, LongSupplier call, long error) {
+        String before = stateOf(tool);
+        due(what, call.getAsLong(), error);
+        due(what + ": state after it", stateOf(tool), before);
+        due(what + ", again", call.getAsLong(), error);
+    }
+
+    // The digest has the characters of the buffer; of the saved grammar only the words can be seen.
+    static String stateOf(GrammarReshaper tool) {
+        StringBuilder state = new StringBuilder(grammarOf(tool)).append(" digest ").append(tool.digest());
+        for (int length = 0; length <= 2; length++) {
+            state.append(' ').append(tool.countDifferences(length));
+        }
+        return state.toString();
     }
 
     static int set(String letters) {

@@ -149,6 +149,12 @@ public final class ComparingBoundariesTest {
         dueWords("A:P;P:O;O:N;N:M;M:L;L:K;K:J;J:I;I:H;H:G;G:F;F:E;E:D;D:C;C:", 1, 0, 0);
         dueWords("A:B;B:C;C:D;D:E;E:F;F:G;G:H;H:I;I:J;J:K;K:L;L:M;M:N;N:O;O:h", 0, 1, 0);
         dueWords("A:aB", 0, 0, 0);
+        dueWords("A:P;P:hh", 0, 0, 1);
+        dueWords("A:hhP;P:", 0, 0, 1);
+        dueWords("A:hP;P:", 0, 1, 0);
+        dueWords("A:Ph;P:", 0, 1, 0);
+        dueWords("A:Phh;P:", 0, 0, 1);
+        dueWords("A:|aA", 1, 1, 1);
         Check.due("words of 60 productions", Check.sixty().countWords(1), 8);
         Check.due("longer words of 60 productions", Check.sixty().countWords(2), 4);
     }

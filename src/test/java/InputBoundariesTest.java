@@ -295,6 +295,12 @@ public final class InputBoundariesTest {
         dueAccepts(Check.sixty(), "ae", 0);
         dueAccepts(Check.loaded("A:B;B:C;C:D;D:E;E:F;F:G;G:H;H:I;I:J;J:K;K:L;L:M;M:N;N:O;O:"), "", 1);
         dueAccepts(Check.loaded("A:B;B:A|A"), "", 0);
+        // The part of the word that a symbol takes may have several ends.
+        dueAccepts(Check.loaded("A:BC;B:a|ab;C:b|c"), "ab", 1);
+        dueAccepts(Check.loaded("A:BC;B:a|ab;C:b|c"), "abc", 1);
+        dueAccepts(Check.loaded("A:BaC;B:|a;C:a"), "aa", 1);
+        dueAccepts(Check.loaded("A:BaC;B:|a;C:a"), "aaa", 1);
+        dueAccepts(Check.loaded("A:BaC;B:|a;C:a"), "aaaa", 0);
     }
 
     // 'The buffer is kept'

@@ -38,6 +38,7 @@ public final class PropertyBoundariesTest {
         ll1AtTheEnd();
         chomsky();
         greibach();
+        propertiesOfALaterGrammar();
         Check.finish();
     }
 
@@ -218,6 +219,7 @@ public final class PropertyBoundariesTest {
         Check.due("behind one that is not nullable", Check.loaded("A:BCA;B:;C:c").leftRecursiveSet(), 0);
         Check.due("behind one without productions", Check.loaded("A:BA").leftRecursiveSet(), 0);
         Check.due("behind itself", Check.loaded("A:|PA;P:AP|").leftRecursiveSet(), 1 + (1 << 15));
+        Check.due("each of several", Check.loaded("A:BC;B:A|;C:c").leftRecursiveSet(), 3);
         Check.due("what follows it is free", Check.loaded("P:PaAbB").leftRecursiveSet(), 1 << 15);
     }
 
@@ -240,6 +242,7 @@ public final class PropertyBoundariesTest {
         Check.due("zero steps of one that is not in use", tool.unitReach(15), Check.set("P"));
         Check.due("down", Check.loaded(CHAIN_DOWN).unitReach(0), ALL_BUT_B);
         Check.due("to itself", Check.loaded("A:A").unitReach(0), 1);
+        Check.due("by each of several", Check.loaded("A:B|C|P").unitReach(0), Check.set("ABCP"));
         Check.due("two symbols are no unit", Check.loaded("A:BB|Ba|aB|;B:").unitReach(0), 1);
         Check.due("a terminal is no unit", Check.loaded("A:a|h").unitReach(0), 1);
         Check.due("no step from what it reaches", Check.loaded("A:B").unitReach(1), 2);
@@ -276,6 +279,7 @@ public final class PropertyBoundariesTest {
         Check.due("down a chain", Check.loaded(CHAIN + "h").firstSet(0), 128);
         Check.due("up a chain", Check.loaded(CHAIN_DOWN + "h").firstSet(0), 128);
         Check.due("from itself", Check.loaded("A:Ah|a").firstSet(0), 1);
+        Check.due("with and without a nullable one", Check.loaded("B:|a;C:Ba").firstSet(2), 1);
         Check.due("from itself if it is nullable", Check.loaded("A:Ah|").firstSet(0), 128);
     }
 
@@ -306,6 +310,8 @@ public final class PropertyBoundariesTest {
         Check.due("up a chain", Check.loaded(CHAIN_DOWN).followSet(2), 256);
         Check.due("from one that is not reachable", Check.loaded("A:a;B:PC;C:h").followSet(15), 128);
         Check.due("what v begins with, though not productive", Check.loaded("A:PB;B:hC").followSet(15), 128);
+        // E gets a from C, C from F, and F from G: against the order of the productions.
+        Check.due("against the order", Check.loaded("C:E;D:;F:CD;G:Fa|Da").followSet(4), 1);
         Check.due("at both ends", Check.loaded("A:PaP").followSet(15), 257);
     }
 
@@ -356,5 +362,34 @@ public final class PropertyBoundariesTest {
         for (String text : no) {
             Check.due("isGreibach of " + text, Check.loaded(text).isGreibach(), 0);
         }
+    }
+
+    // 'Replaces the grammar': no answer keeps anything of the grammar before
+    private static void propertiesOfALaterGrammar() {
+        GrammarReshaper tool = Check.loaded("A:BA|CP|h;B:A|;C:AB|;P:PC|gA");
+        Check.due("digest of the first", tool.digest(), Check.loaded("A:BA|CP|h;B:A|;C:AB|;P:PC|gA").digest());
+        Check.write(tool, "O:");
+        tool.load();
+        dueAnswersOfO(tool);
+        tool.countTrees();
+        tool.accepts();
+        dueAnswersOfO(tool);
+    }
+
+    private static void dueAnswersOfO(GrammarReshaper tool) {
+        Check.due("later leftRecursiveSet", tool.leftRecursiveSet(), 0);
+        for (int i = 0; i < 16; i++) {
+            Check.due("later firstSet", tool.firstSet(i), 0);
+            Check.due("later leftRecursiveSet", tool.leftRecursiveSet(), 0);
+            Check.due("later followSet", tool.followSet(i), i == 0 ? 256 : 0);
+            Check.due("later unitReach", tool.unitReach(i), 1 << i);
+        }
+        Check.due("later nullableSet", tool.nullableSet(), 1 << 14);
+        Check.due("later productiveSet", tool.productiveSet(), 1 << 14);
+        Check.due("later reachableSet", tool.reachableSet(), 1);
+        Check.due("later leftRecursiveSet", tool.leftRecursiveSet(), 0);
+        Check.due("later countWords", tool.countWords(0) + tool.countWords(1) + tool.countWords(2), 0);
+        Check.due("later accepts", tool.accepts(), 0);
+        Check.due("later isLl1", tool.isLl1(), 1);
     }
 }

@@ -175,6 +175,7 @@ public final class TransformationBoundariesTest {
         due(Kind.EMPTY, "A:Baaaaaaa;B:", 2, "A:Baaaaaaa A:aaaaaaa");
         due(Kind.EMPTY, "A:BC;C:", 2, "A:B A:BC");
         due(Kind.EMPTY, "A:P;P:|h", 2, "A:P P:h");
+        due(Kind.EMPTY, "A:BB;B:C;C:|c", 4, "A:B A:BB B:C C:c");
         GrammarReshaper tool = Check.loaded("A:aA|");
         Check.due("the empty word before", tool.countWords(0), 1);
         tool.removeEmpty();
@@ -434,6 +435,8 @@ public final class TransformationBoundariesTest {
         refused(Kind.GREIBACH, "A:BCCCCCCC;B:Pa", TOO_LARGE);
         due(Kind.GREIBACH, "A:BCCCCCC;B:Pa", 0, "");
         refused(Kind.GREIBACH, "A:Aa|bCCCCCCC", TOO_LARGE);
+        // A has lost its production when D: A c c c c is replaced.
+        due(Kind.GREIBACH, "A:Bccccc;C:CAcccc|c", 2, "C:c C:cD");
     }
 
     private static void greibachTooManyProductions() {

@@ -212,11 +212,13 @@ public final class InputBoundariesTest {
         dueLoad("A:" + "|".repeat(57) + ":", -4, "");
         dueLoad("A:" + "|".repeat(56) + ";B", -4, "");
         dueLoad("A:" + "|".repeat(55) + ";B:", 2, "A: B:");
-        // No text has more productions than this one.
-        GrammarReshaper tool = Check.written("A:|A|B|C|D|E|F|G|H|I|J|K|L|M|N|O|P|a|b|c|d|e|f|g|h|aa|ab|ac");
-        Check.due("load of many productions", tool.load(), 28);
+        // A '|' and a letter is the least that a production takes, so no text has more of them.
+        GrammarReshaper tool = Check.written("A:|A|B|C|D|E|F|G|H|I|J|K|L|M|N|O|P|a|b|c|d|e|f|g|h;B:|a|b|c");
+        Check.due("load of many productions", tool.load(), 29);
         Check.due("first of many", tool.symbol(0, 1), -1);
-        Check.due("last of many", tool.symbol(27, 1), 'h');
+        Check.due("last of A", tool.symbol(24, 1), 'h');
+        Check.due("last of many", tool.symbol(28, 1), 'c');
+        Check.due("behind the last of many", tool.symbol(29, 0), -5);
     }
 
     // 'Replaces the grammar by the one in the buffer, and clears the buffer'

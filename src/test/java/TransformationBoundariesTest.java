@@ -39,6 +39,7 @@ public final class TransformationBoundariesTest {
         recursionOrder();
         recursionNewOnesAreNotTreated();
         recursionWithoutOtherProductions();
+        recursionWithoutLeftSide();
         recursionTooLong();
         recursionTooLongInBetween();
         recursionTooManyProductions();
@@ -197,6 +198,8 @@ public final class TransformationBoundariesTest {
     private static void emptyCountsTheSetOnly() {
         due(Kind.EMPTY, "A:BBBBBBBB;B:", 8, "A:B A:BB A:BBB A:BBBB A:BBBBB A:BBBBBB A:BBBBBBB A:BBBBBBBB");
         due(Kind.EMPTY, "A:BBBBBBBB|BBBBBBB|B;B:|b", 9, "A:B A:BB A:BBB A:BBBB A:BBBBB A:BBBBBB A:BBBBBBB A:BBBBBBBB B:b");
+        // The 61st that is built is there already.
+        dueCount(Kind.EMPTY, Check.loaded("A:BCDEF;G:BCDE;H:BCD;I:BB;B:;C:;D:;E:;F:|a|b|c|d|e"), 60);
         // With five empty productions the grammar is full; without them it has 55.
         GrammarReshaper tool = Check.withoutUnits("A:B;C:B;D:B;E:B;B:|a|b|c|d|e|f|g|h|aa|ab|ac", 60);
         dueCount(Kind.EMPTY, tool, 55);
@@ -230,6 +233,8 @@ public final class TransformationBoundariesTest {
         // A takes over the same eleven right sides from each of the others.
         dueCount(Kind.UNITS, Check.loaded("A:B|C|D|E;C:B;D:B;E:B;B:a|b|c|d|e|f|g|h|aa|ab|ac|ad"), 60);
         dueCount(Kind.UNITS, Check.loaded("A:B|a|b|c;C:B|D|E;D:B;E:B;B:a|b|c|d|e|f|g|h|aa|ab|ac|ad"), 60);
+        // The 61st that is built is there already.
+        dueCount(Kind.UNITS, Check.loaded("A:B;C:B;D:B|a;E:B|D;B:a|b|c|d|e|f|g|h|aa|ab|ac|ad"), 60);
     }
 
     // 'NOT_ALLOWED if the grammar has an empty production or a unit production'
@@ -250,6 +255,8 @@ public final class TransformationBoundariesTest {
         due(Kind.CHOMSKY, "A:AA", 1, "A:AA");
         due(Kind.CHOMSKY, "A:AAA", 2, "A:AB B:AA");
         due(Kind.CHOMSKY, "A:AAAAAAAA", 7, "A:AB B:AC C:AD D:AE E:AF F:AG G:AA");
+        due(Kind.CHOMSKY, "A:BBB;B:AAA", 4, "A:BC B:AD C:BB D:AA");
+        due(Kind.CHOMSKY, "A:AAAA|BBB", 5, "A:AC A:BD C:AE D:BB E:AA");
         due(Kind.CHOMSKY, "A:ha", 3, "A:CB B:a C:h");
         due(Kind.CHOMSKY, "A:hhhhhhhh", 8, "A:BC B:h C:BD D:BE E:BF F:BG G:BH H:BB");
     }
@@ -323,6 +330,13 @@ public final class TransformationBoundariesTest {
         due(Kind.RECURSION, "P:Pa", 2, "B:a B:aB");
     }
 
+    // 'Let X1, X2, .. be the left sides of the grammar': what has no productions is none of them, not even A
+    private static void recursionWithoutLeftSide() {
+        due(Kind.RECURSION, "B:Ab|c", 2, "B:Ab B:c");
+        due(Kind.RECURSION, "A:Cb|c;B:A|Ca", 5, "A:Cb A:c B:Ca B:Cb B:c");
+        due(Kind.RECURSION, "A:Pb;P:h;O:Na|P", 4, "A:Pb O:Na O:P P:h");
+    }
+
     // 'or a right side with more than 8 symbols'
     private static void recursionTooLong() {
         due(Kind.RECURSION, "A:bbbb;B:Abbbb", 2, "A:bbbb B:bbbbbbbb");
@@ -363,6 +377,7 @@ public final class TransformationBoundariesTest {
     private static void recursionCountsTheSetOnly() {
         dueCount(Kind.RECURSION, larger(";A:a;G:Ab|a|b|c", 60), 60);
         dueCount(Kind.RECURSION, larger(";A:a|b;G:Ab|ab|a", 60), 60);
+        dueCount(Kind.RECURSION, larger(";A:a|b;G:Ab|bb|a", 60), 60);
         dueCount(Kind.RECURSION, larger(";A:a;G:Ab|ab|a|b", 60), 59);
     }
 
@@ -389,6 +404,9 @@ public final class TransformationBoundariesTest {
         due(Kind.FACTOR, "A:aaaaaaaa|aaaaaaab", 3, "A:aaaaaaaB B:a B:b");
         due(Kind.FACTOR, "A:aaaaaaaa|abbbbbbb", 3, "A:aB B:aaaaaaa B:bbbbbbb");
         due(Kind.FACTOR, "A:aaaaaaaa|aaaaaaab|b|aaa", 6, "A:aaaB A:b B: B:aaaaC C:a C:b");
+        // What all of them share, not the first two.
+        due(Kind.FACTOR, "A:ab|abc|ad", 5, "A:aB B:bC B:d C: C:c");
+        due(Kind.FACTOR, "A:ab|ac|acd", 5, "A:aB B:b B:cC C: C:d");
         due(Kind.FACTOR, "A:ha|hb|PA|PB", 6, "A:PC A:hD C:A C:B D:a D:b");
     }
 
@@ -448,6 +466,10 @@ public final class TransformationBoundariesTest {
         refused(Kind.GREIBACH, Check.withoutUnits(FIFTY_FIVE_GREIBACH + ";A:a|b|c|d|eh", 60), TOO_LARGE);
         // One for one.
         dueCount(Kind.GREIBACH, Check.withoutUnits(FIFTY_FIVE_GREIBACH + ";G:a;A:GG|a|b|c", 60), 60);
+        // Two for one, of which one is there already.
+        dueCount(Kind.GREIBACH, Check.withoutUnits(FIFTY_FIVE_GREIBACH + ";G:a|b;A:GG|bG|a", 60), 60);
+        dueCount(Kind.GREIBACH, Check.withoutUnits(FIFTY_FIVE_GREIBACH + ";G:a|b;A:GG|aG|a", 60), 60);
+        refused(Kind.GREIBACH, Check.withoutUnits(FIFTY_FIVE_GREIBACH + ";G:a|b;A:GG|hG|a", 60), TOO_LARGE);
         dueCount(Kind.GREIBACH, Check.withoutUnits(FIFTY_FIVE_GREIBACH + ";A:OO|a|b|c|d", 60), 59);
     }
 

@@ -131,6 +131,8 @@ public final class TransformationBoundariesTest {
         for (Kind kind : new Kind[] {Kind.EMPTY, Kind.UNITS, Kind.RECURSION, Kind.GREIBACH}) {
             due(kind, Check.withoutUnits(FIFTY_FIVE_GREIBACH + more, 60), 60, greibach);
         }
+        // G: G, which is looked for, would stand behind the 60th.
+        dueCount(Kind.RECURSION, larger(";G:AA|AB|AC|AD|AE", 60), 60);
     }
 
     // 'in which a nonterminal that is not productive occurs (on the left or on the right)'

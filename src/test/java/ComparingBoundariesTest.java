@@ -91,6 +91,7 @@ public final class ComparingBoundariesTest {
         Check.due("buffer after restore", tool.clearInput(), 3);
     }
 
+    // 'the saved one, which is kept': no transformation of the grammar reaches it
     private static void savedOneIsApart() {
         GrammarReshaper tool = Check.loaded("A:a|B;B:|b");
         tool.save();
@@ -201,6 +202,7 @@ public final class ComparingBoundariesTest {
         Check.due("countWords(1) after countDifferences", tool.countWords(1), Check.loaded(current).countWords(1));
     }
 
+    // 'Counts the words of a length .. in exactly one of the two grammars': from none to all of them
     private static void numbersOfDifferences() {
         dueDifferences("A:BB;B:|" + ALL_TERMINALS, "P:", 1, 8, 64);
         dueDifferences("P:", "A:BB;B:|" + ALL_TERMINALS, 1, 8, 64);
@@ -306,6 +308,7 @@ public final class ComparingBoundariesTest {
         Check.due("digest of right sides of 8", wide.digest(), digestOf(wide, -9, ""));
     }
 
+    // 'Computes a hash of the whole state': it changes nothing of it
     private static void digestChangesNothing() {
         GrammarReshaper tool = Check.loaded("A:Ab|a");
         tool.save();

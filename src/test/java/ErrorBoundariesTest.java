@@ -68,6 +68,7 @@ public final class ErrorBoundariesTest {
         dueRefused("countTrees with a circle", circle, circle::countTrees, -8);
     }
 
+    // 'A method that returns an error code changes nothing': NO_SUCH_PRODUCTION, NONE and OUT_OF_RANGE
     private static void rangeErrors() {
         GrammarReshaper tool = prepared("A:a|b", "abc");
         Check.refused("symbol(2, 0)", tool, () -> tool.symbol(2, 0), -5);
@@ -102,6 +103,7 @@ public final class ErrorBoundariesTest {
         dueRefused("toGreibach with an empty production", noGreibach, noGreibach::toGreibach, -8);
     }
 
+    // 'NOTHING_SAVED if no grammar has been saved': and nothing is saved by asking
     private static void nothingSaved() {
         GrammarReshaper tool = Check.loaded("A:a|b");
         Check.write(tool, "abc");

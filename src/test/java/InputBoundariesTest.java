@@ -52,6 +52,7 @@ public final class InputBoundariesTest {
         }
     }
 
+    // 'BAD_CHARACTER if code is not 32 to 126'
     private static void codesThatAreRefused() {
         int[] far = {Integer.MIN_VALUE, Integer.MIN_VALUE + 65, -65, 256 + 65, 65536 + 65, Integer.MAX_VALUE};
         GrammarReshaper tool = Check.written("A:");
@@ -204,6 +205,7 @@ public final class InputBoundariesTest {
         dueLoad("A:abcdefgh|abcdefgh|abcdefg", 2, "A:abcdefg A:abcdefgh");
     }
 
+    // 'The input buffer has at most 60 characters': a grammar may take all of them
     private static void fullBuffer() {
         dueLoad("A:" + "|".repeat(57), 1, "A:");
         dueLoad("A:" + "|".repeat(58), 1, "A:");
@@ -363,6 +365,7 @@ public final class InputBoundariesTest {
         dueTrees("A:AA|a;B:BB;C:Cc", "a", 1);
     }
 
+    // 'from itself by one or more unit productions': a chain without a circle is allowed
     private static void treesWithChainsOfUnits() {
         dueTrees("A:B;B:C;C:D;D:E;E:F;F:G;G:H;H:I;I:J;J:K;K:L;L:M;M:N;N:O;O:a", "a", 1);
         dueTrees("A:P;P:O;O:N;N:M;M:L;L:K;K:J;J:I;I:H;H:G;G:F;F:E;E:D;D:C;C:a", "a", 1);
@@ -370,6 +373,7 @@ public final class InputBoundariesTest {
         dueTrees("A:P|O;P:O;O:a|aa", "aa", 2);
     }
 
+    // 'If several errors apply, the one that is listed first is returned'
     private static void invalidInputComesBeforeNotAllowed() {
         dueTrees("A:", "A", -4);
         dueTrees("A:A", "aaaaaaaaaaa", -4);

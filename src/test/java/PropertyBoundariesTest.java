@@ -71,6 +71,7 @@ public final class PropertyBoundariesTest {
         Check.due("clearInput", tool.clearInput(), 0);
     }
 
+    // 'Creates a tool with a grammar without productions': which can be transformed and saved
     private static void newObjectTransforms() {
         GrammarReshaper tool = new GrammarReshaper();
         Check.due("removeUseless", tool.removeUseless(), 0);
@@ -84,6 +85,7 @@ public final class PropertyBoundariesTest {
         Check.due("restore after save", tool.restore(), 0);
     }
 
+    // 'Creates a tool with a grammar without productions': whatever other tools hold
     private static void objectsAreApart() {
         GrammarReshaper full = Check.sixty();
         full.save();
@@ -166,6 +168,7 @@ public final class PropertyBoundariesTest {
         Check.due("symbol(2, greatest)", tool.symbol(2, Integer.MAX_VALUE), -1);
     }
 
+    // 'If several errors apply, the one that is listed first is returned'
     private static void noSuchProductionComesBeforeNone() {
         GrammarReshaper tool = Check.loaded("A:a");
         Check.due("symbol(1, -1)", tool.symbol(1, -1), -5);
@@ -259,6 +262,7 @@ public final class PropertyBoundariesTest {
         }
     }
 
+    // 'OUT_OF_RANGE if nonterminal is not 0 to 15'
     private static void nonterminalsThatDoNot() {
         GrammarReshaper tool = Check.loaded("A:Pa;P:h|O");
         for (int wrong : NO_NONTERMINALS) {

@@ -185,6 +185,7 @@ public final class TransformationBoundariesTest {
         Check.due("the empty word is not derived any more", tool.countWords(0), 0);
     }
 
+    // 'If after some step the copy has more than 60 productions': removeEmpty
     private static void emptyTooMany() {
         // 31 + 15 + 7 + 3 right sides from the long ones, and those of F.
         String large = "A:BCDEF;G:BCDE;H:BCD;I:BC;B:;C:;D:;E:;F:|a|b|c";
@@ -220,6 +221,7 @@ public final class TransformationBoundariesTest {
         Check.due("what N has from O", tool.symbol(13, 1), 'a');
     }
 
+    // 'If after some step the copy has more than 60 productions': removeUnits
     private static void unitsTooMany() {
         String large = "A:B;C:B;D:B;E:B;B:a|b|c|d|e|f|g|h|aa|ab|ac";
         dueCount(Kind.UNITS, Check.loaded(large), 55);
@@ -231,6 +233,7 @@ public final class TransformationBoundariesTest {
         refused(Kind.UNITS, "A:B;C:B;D:B;E:B;F:B;G:B;H:B;B:a|b|c|d|e|f|g|h", TOO_LARGE);
     }
 
+    // 'Only the set of productions after a step matters, not what is built within it'
     private static void unitsCountTheSetOnly() {
         // A takes over the same eleven right sides from each of the others.
         dueCount(Kind.UNITS, Check.loaded("A:B|C|D|E;C:B;D:B;E:B;B:a|b|c|d|e|f|g|h|aa|ab|ac|ad"), 60);
@@ -263,6 +266,7 @@ public final class TransformationBoundariesTest {
         due(Kind.CHOMSKY, "A:hhhhhhhh", 8, "A:BC B:h C:BD D:BE E:BF F:BG G:BH H:BB");
     }
 
+    // 'If after some step the copy has more than 60 productions': toChomsky, in both parts
     private static void chomskyTooManyProductions() {
         dueCount(Kind.CHOMSKY, largerApart(";A:a|b|c|AAA", 59), 60);
         refused(Kind.CHOMSKY, largerApart(";A:a|b|c|d|AAA", 60), TOO_LARGE);
@@ -358,6 +362,7 @@ public final class TransformationBoundariesTest {
         refused(Kind.RECURSION, "A:Baaa;B:Bb;C:Accccc", TOO_LARGE);
     }
 
+    // 'If after some step the copy has more than 60 productions': removeLeftRecursion, in both steps
     private static void recursionTooManyProductions() {
         // The step for A makes two productions more.
         dueCount(Kind.RECURSION, larger(";A:Aa|a", 57), 59);
@@ -412,6 +417,7 @@ public final class TransformationBoundariesTest {
         due(Kind.FACTOR, "A:ha|hb|PA|PB", 6, "A:PC A:hD C:A C:B D:a D:b");
     }
 
+    // 'If after some step the copy has more than 60 productions': leftFactor
     private static void factorTooManyProductions() {
         dueCount(Kind.FACTOR, largerApart(";A:a|b|ca|cb", 59), 60);
         refused(Kind.FACTOR, largerApart(";A:a|b|c|da|db", 60), TOO_LARGE);
@@ -422,6 +428,7 @@ public final class TransformationBoundariesTest {
         refused(Kind.FACTOR, larger(";P:a", 56), TOO_LARGE);
     }
 
+    // 'or if a free nonterminal is needed and there is none': leftFactor
     private static void factorFreeNonterminals() {
         due(Kind.FACTOR, "A:aBCDEFGH|aIJKLMNO", 3, "A:aP P:BCDEFGH P:IJKLMNO");
         refused(Kind.FACTOR, "A:aBCDEFGH|aIJKLMNO|P", TOO_LARGE);
@@ -445,6 +452,7 @@ public final class TransformationBoundariesTest {
         due(Kind.GREIBACH, "A:Aa", 2, "B:a B:aB");
     }
 
+    // 'or a right side with more than 8 symbols': toGreibach
     private static void greibachTooLong() {
         due(Kind.GREIBACH, "A:BCCCC;B:bCCC", 2, "A:bCCCCCCC B:bCCC");
         refused(Kind.GREIBACH, "A:BCCCC;B:bCCCC", TOO_LARGE);
@@ -459,6 +467,7 @@ public final class TransformationBoundariesTest {
         due(Kind.GREIBACH, "A:Bccccc;C:CAcccc|c", 2, "C:c C:cD");
     }
 
+    // 'If after some step the copy has more than 60 productions': toGreibach
     private static void greibachTooManyProductions() {
         // A: BB gets the eleven right sides of B.
         dueCount(Kind.GREIBACH, Check.withoutUnits("C:B;D:B;E:B;B:a|b|c|d|e|f|g|h|aA|bB|cC;A:BB|a|b|c|d|e", 50), 60);
@@ -475,6 +484,7 @@ public final class TransformationBoundariesTest {
         dueCount(Kind.GREIBACH, Check.withoutUnits(FIFTY_FIVE_GREIBACH + ";A:OO|a|b|c|d", 60), 59);
     }
 
+    // 'or if a free nonterminal is needed and there is none': toGreibach
     private static void greibachFreeNonterminals() {
         due(Kind.GREIBACH, "A:aBCDEFGH|bIJKLMNO|cd", 4, "A:aBCDEFGH A:bIJKLMNO A:cP P:d");
         refused(Kind.GREIBACH, "A:aBCDEFGH|bIJKLMNO|cdP", TOO_LARGE);

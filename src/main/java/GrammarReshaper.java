@@ -106,7 +106,7 @@ public final class GrammarReshaper {
         return codeOf(index == 0 ? Production.left(chosen) : Production.symbolAt(chosen, index - 1));
     }
 
-    // ---- properties
+    // ---- properties; sets of nonterminals are bit masks with bit 0 for A, sets of terminals with bit 0 for a
 
     public int nullableSet() {
         return grammar.nullable();

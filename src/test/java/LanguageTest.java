@@ -4,6 +4,8 @@ import java.lang.reflect.Method;
 import java.lang.reflect.Modifier;
 import java.nio.file.Files;
 import java.nio.file.Path;
+import java.util.Arrays;
+import java.util.List;
 import java.util.TreeSet;
 import java.util.regex.Matcher;
 import java.util.regex.Pattern;
@@ -17,6 +19,7 @@ public final class LanguageTest {
         + "int save() int restore() int countWords(int) int countDifferences(int) long digest()";
     private static final String CONSTANTS = "NONE BAD_CHARACTER BUFFER_FULL INVALID_INPUT NO_SUCH_PRODUCTION OUT_OF_RANGE TOO_LARGE "
         + "NOT_ALLOWED NOTHING_SAVED";
+    private static final List<String> LIBRARY = List.of("Arrays.fill", "System.arraycopy", "Math.min", "Integer.bitCount", "Long.bitCount");
 
     private LanguageTest() {
     }
@@ -38,7 +41,7 @@ public final class LanguageTest {
                 methods.add(text.replaceFirst("^public ", ""));
             }
         }
-        Check.due("methods", methods.toString(), new TreeSet<>(java.util.List.of(FACE.split(" (?=int |long )"))).toString());
+        Check.due("methods", methods.toString(), new TreeSet<>(List.of(FACE.split(" (?=int |long )"))).toString());
         TreeSet<String> constants = new TreeSet<>();
         for (Field field : GrammarReshaper.class.getDeclaredFields()) {
             if (!Modifier.isPrivate(field.getModifiers())) {
@@ -46,7 +49,8 @@ public final class LanguageTest {
                 Check.due(field.getName(), Modifier.toString(field.getModifiers()), "public static final");
             }
         }
-        Check.due("constants", constants.toString(), new TreeSet<>(java.util.List.of(CONSTANTS.split(" "))).toString());
+        Check.due("constants", constants.toString(), new TreeSet<>(List.of(CONSTANTS.split(" "))).toString());
+        Check.due("constructors", Arrays.toString(GrammarReshaper.class.getDeclaredConstructors()), "[public GrammarReshaper()]");
         Check.due("class", Modifier.toString(GrammarReshaper.class.getModifiers()), "public final");
     }
 
@@ -74,6 +78,10 @@ public final class LanguageTest {
         Matcher imported = Pattern.compile("import ([^;]*);").matcher(code);
         while (imported.find()) {
             Check.due("import", imported.group(1), "java.util.Arrays");
+        }
+        Matcher called = Pattern.compile("\\b(Arrays|System|Math|Integer|Long|String|StringBuilder|Character|Boolean)\\.\\w+").matcher(code);
+        while (called.find()) {
+            Check.due("rule 4 and " + called.group(), LIBRARY.contains(called.group()) ? 1 : 0, 1);
         }
     }
 

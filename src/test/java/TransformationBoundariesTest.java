@@ -55,6 +55,7 @@ public final class TransformationBoundariesTest {
         greibachTooManyProductions();
         greibachFreeNonterminals();
         freeNonterminalIsTheFirst();
+        lettersOutOfUseAreFreeAgain();
         freeNonterminalIsNeverA();
         notAllowedComesBeforeTooLarge();
         Check.finish();
@@ -508,9 +509,26 @@ public final class TransformationBoundariesTest {
         due(Kind.RECURSION, "A:Ah|C", 4, "A:C A:CB B:h B:hB");
         due(Kind.FACTOR, "A:aB|aC", 3, "A:aD D:B D:C");
         due(Kind.GREIBACH, "A:aaC", 2, "A:aBC B:a");
-        // A letter that has gone out of use is free again.
+    }
+
+    // 'A nonterminal is in use if it is A or occurs in some production': of the copy, as it is after the last step
+    private static void lettersOutOfUseAreFreeAgain() {
+        // B has lost its only production in its own step.
         due(Kind.RECURSION, "A:a;B:Bb;D:Dd|d", 7, "A:a B:d B:dB C:b C:bC D:d D:dB");
+        // B still stands in A: B a, so it stays in use without a production.
+        due(Kind.RECURSION, "A:Ba|a;B:Bb;D:Dd|d", 8, "A:Ba A:a C:b C:bC D:d D:dE E:d E:dE");
+        // D: B c, the last B, goes in the step for D with B, before D needs a letter.
+        due(Kind.RECURSION, "A:a;B:Bb;D:Bc|Dd|d", 7, "A:a B:d B:dB C:b C:bC D:d D:dB");
+        // A is in use without a production, too.
+        due(Kind.RECURSION, "A:Aa;C:Cc|c", 6, "B:a B:aB C:c C:cD D:c D:cD");
+        // 'nonterminals that come into use on the way are not': B, once more in use, keeps B: A and B: A B.
+        due(Kind.RECURSION, "A:a;B:Bb;D:DA|d", 7, "A:a B:A B:AB C:b C:bC D:d D:dB");
+        // Without a letter that is free again there would be none for P.
+        due(Kind.RECURSION, "A:CDEFG|HIJKLMN;B:Bb;P:Pa|b", 8, "A:CDEFG A:HIJKLMN B:a B:aB O:b O:bO P:b P:bB");
+        refused(Kind.RECURSION, "A:CDEFG|HIJKLMN|B;B:Bb;P:Pa|b", TOO_LARGE);
+        // B goes out of use among the steps that make right sides begin with terminals.
         due(Kind.GREIBACH, "A:Ba|aa", 2, "A:aB B:a");
+        due(Kind.GREIBACH, "A:Ba|aBa", 2, "A:aBC C:a");
     }
 
     // 'A nonterminal is in use if it is A or occurs in some production'
